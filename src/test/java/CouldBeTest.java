@@ -107,5 +107,12 @@ final class CouldBeTest {
         // the three ones are lost by a shift of 3, and only zeros are left
         Due.that("bestShift(0)", x.bestShift(0), 3);
         Due.that("row(0, 5)", x.row(0, 5), 3);
+        x.resize(0, 585);
+        x.append(0, 1, 15);
+        // only a shift of 15 would lose them all
+        Due.that("bestShift(0)", x.bestShift(0), 0);
+        x.resize(0, 14);
+        x.append(0, 1, 30);
+        Due.that("bestShift(0)", x.bestShift(0), 1);
     }
 }

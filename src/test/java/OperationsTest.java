@@ -142,6 +142,10 @@ final class OperationsTest {
         Due.that("shift(0, -1)", x.shift(0, -1), 0);
         Due.that("shift(0, 7)", x.shift(0, 7), 7);
         Due.bits(x, 0, "0000000");
+        x.append(0, 1, 593);
+        Due.that("shift(0, 20)", x.shift(0, 20), 600);
+        Due.that("shift(0, -20)", x.shift(0, -20), 580);
+        Due.that("ones", x.row(0, 5), 573);
     }
 
     private static void shiftRefuses() {

@@ -92,6 +92,10 @@ final class RowsTest {
         Due.words(x, 0, 45, 64, 32769);
         Due.that("is an action", x.undo(), 4);
         Due.that("length undone", x.row(0, 0), 22);
+        x.resize(0, 0);
+        Due.that("write(0, 7, 2)", x.write(0, 7, 2), 1);
+        x.resize(0, 6);
+        Due.bits(x, 0, "110000");
     }
 
     private static void writeRefuses() {
@@ -159,6 +163,9 @@ final class RowsTest {
         Due.that("resize(-1, 5)", x.resize(-1, 5), INVALID);
         Due.that("states", x.count(4), 3);
         Due.that("length", x.row(0, 0), 600);
+        x.resize(0, 2);
+        x.resize(0, 5);
+        Due.bits(x, 0, "11000");
     }
 
     private static void shortestForm() {

@@ -201,6 +201,8 @@ final class TextsTest {
         fails("0)", 1, 1, 0);
         fails(")", 1, 0, 0);
         fails("0&\t1", 1, 2, 0);
+        fails("0" + (char) 1, 1, 1, 0);
+        fails((char) 1 + "0", 1, 0, 0);
         fails("0" + (char) 160, 1, 1, 0);
         fails("0" + (char) 255, 1, 1, 0);
         fails("<5", 1, 0, 0);
