@@ -75,9 +75,9 @@ final class Due {
             seen.append(x.count(what)).append(' ');
         }
         for (int row = 0; row < x.count(0); row++) {
-            seen.append("/ ");
-            for (int at = 0; at < x.row(row, 0); at++) {
-                seen.append(x.bit(row, at));
+            seen.append("/ ").append(x.row(row, 0)).append(' ');
+            for (int index = 0; index < x.row(row, 1); index++) {
+                seen.append(x.word(row, index)).append(' ');
             }
         }
         return seen.toString();

@@ -1,13 +1,17 @@
-/** Many runs of 512 calls, each answer compared with the model's; the numbers come from a fixed row. */
+/** Many runs of just 512 calls, each answer compared with the model's; the numbers come from a fixed row. */
 final class ModelTest {
     private static final int RUNS = 360;
     private static final int CALLS = 512;
+    // As many as an evaluation can take, with its text and its failure.
+    private static final int EVALUATION_CALLS = 110;
+    private static final int UNDO_CALLS = 4;
     private static final String SIGNS = "0123456789 ~()<>|^&-x";
 
     private final int run;
     private long seed;
-    private PackedBits x;
-    private Model model;
+    private int left = CALLS;
+    private final PackedBits x;
+    private final Model model;
 
     private ModelTest(int run) {
         this.run = run;
@@ -50,20 +54,19 @@ final class ModelTest {
     }
 
     private void calls(int style) {
-        int done = 0;
-        while (done < CALLS) {
-            if (style == 2 && below(4) == 0) {
-                done += evaluation();
-            } else if (below(5) < 2) {
+        while (left > 0) {
+            if (style == 2 && left >= EVALUATION_CALLS && below(4) == 0) {
+                evaluation();
+            } else if (left < UNDO_CALLS || below(5) < 2) {
                 look();
             } else {
                 act(style);
             }
-            done++;
         }
     }
 
     private void due(String call, int got, int want) {
+        left--;
         Due.that("run " + run + ": " + call, got, want);
     }
 
@@ -117,7 +120,7 @@ final class ModelTest {
     }
 
     private void undos() {
-        for (int times = below(4); times >= 0; times--) {
+        for (int times = 1 + below(UNDO_CALLS); times > 0; times--) {
             due("undo", x.undo(), model.undo());
         }
     }
@@ -163,8 +166,8 @@ final class ModelTest {
         }
     }
 
-    /** Types a text, evaluates it and looks at the failure; tells the number of calls. */
-    private int evaluation() {
+    /** Types a text, evaluates it and looks at the failure. */
+    private void evaluation() {
         StringBuilder text = new StringBuilder();
         expression(text, 0);
         int spoils = below(3) == 0 ? 1 + below(2) : 0;
@@ -180,7 +183,6 @@ final class ModelTest {
         for (int what = -1; what <= 3; what++) {
             due("failure(" + what + ") of " + text, x.failure(what), model.failure(what));
         }
-        return text.length() + 7;
     }
 
     private void spoil(StringBuilder text) {
