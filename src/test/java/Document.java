@@ -4,6 +4,10 @@ import java.nio.file.Files;
 import java.nio.file.Path;
 import java.util.ArrayList;
 import java.util.List;
+import java.util.Map;
+import java.util.TreeMap;
+import java.util.regex.Matcher;
+import java.util.regex.Pattern;
 
 /** The sentences of ../shared/DOC.md, by their sections. */
 final class Document {
@@ -28,6 +32,36 @@ final class Document {
 
     private String promise(int number) {
         return section("## Promise " + number + ":");
+    }
+
+    /** Each method of the public face with the number of its parameters. */
+    Map<String, Integer> methods() {
+        Map<String, Integer> methods = new TreeMap<>();
+        Matcher method = Pattern.compile("public int (\\w+)\\(([^)]*)\\);").matcher(section("## The public face"));
+        while (method.find()) {
+            methods.put(method.group(1), method.group(2).isEmpty() ? 0 : method.group(2).split(",").length);
+        }
+        return methods;
+    }
+
+    /** Each constant of the public face with its value. */
+    Map<String, Integer> constants() {
+        Map<String, Integer> constants = new TreeMap<>();
+        Matcher constant = Pattern.compile("public static final int (\\w+) = (-?\\d+);").matcher(section("## The public face"));
+        while (constant.find()) {
+            constants.put(constant.group(1), Integer.valueOf(constant.group(2)));
+        }
+        return constants;
+    }
+
+    /** The call of a promise with the names of its arguments. */
+    String callOf(int promise) {
+        String head = promise(promise).replaceAll("(?s)^\\s*`int ([^`]*)`.*", "$1");
+        return head.replace("int ", "");
+    }
+
+    boolean isAction(int promise) {
+        return promise(promise).contains("his is an action.");
     }
 
     /** Tells whether words stand in a promise or in what all promises lean on. */

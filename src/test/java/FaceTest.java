@@ -1,3 +1,4 @@
+import java.io.IOException;
 import java.lang.reflect.Field;
 import java.lang.reflect.Member;
 import java.lang.reflect.Method;
@@ -17,14 +18,13 @@ final class FaceTest {
         Map.entry("failure", 1), Map.entry("count", 1), Map.entry("row", 2), Map.entry("word", 2),
         Map.entry("bit", 2), Map.entry("rank", 2), Map.entry("select", 2), Map.entry("would", 4),
         Map.entry("same", 1), Map.entry("bestShift", 1)));
-    private static final Set<String> CONSTANTS =
-        Set.of("INVALID_ARGUMENT", "ILLEGAL_STATE", "CAPACITY_EXCEEDED", "NONE");
+    private static final Map<String, Integer> CONSTANTS =
+        new TreeMap<>(Map.of("INVALID_ARGUMENT", -1, "ILLEGAL_STATE", -2, "CAPACITY_EXCEEDED", -3, "NONE", -9));
 
-    public static void main(String[] args) {
-        Due.that("INVALID_ARGUMENT", PackedBits.INVALID_ARGUMENT, -1);
-        Due.that("ILLEGAL_STATE", PackedBits.ILLEGAL_STATE, -2);
-        Due.that("CAPACITY_EXCEEDED", PackedBits.CAPACITY_EXCEEDED, -3);
-        Due.that("NONE", PackedBits.NONE, -9);
+    public static void main(String[] args) throws IOException, ReflectiveOperationException {
+        Document document = new Document();
+        Due.holds("the methods that the document tells", document.methods().equals(METHODS));
+        Due.holds("the constants that the document tells", document.constants().equals(CONSTANTS));
         Due.that("modifiers", PackedBits.class.getModifiers(), Modifier.PUBLIC | Modifier.FINAL);
         Due.that("constructors", PackedBits.class.getDeclaredConstructors().length, 1);
         methods();
@@ -56,17 +56,17 @@ final class FaceTest {
         Due.holds("all methods", seen.equals(METHODS.keySet()));
     }
 
-    private static void fields() {
+    private static void fields() throws IllegalAccessException {
         int constants = Modifier.PUBLIC | Modifier.STATIC | Modifier.FINAL;
-        Set<String> seen = new TreeSet<>();
+        Map<String, Integer> seen = new TreeMap<>();
         for (Field field : PackedBits.class.getDeclaredFields()) {
             if (!isHidden(field)) {
-                seen.add(field.getName());
+                seen.put(field.getName(), field.getInt(null));
                 Due.that("modifiers of " + field.getName(), field.getModifiers(), constants);
             }
             staticIsFinal(field);
         }
-        Due.holds("all constants", seen.equals(new TreeSet<>(CONSTANTS)));
+        Due.holds("all constants", seen.equals(CONSTANTS));
     }
 
     private static void staticIsFinal(Field field) {
